@@ -9,6 +9,8 @@ import java.util.List;
 public final class ModelTest {
     private static final int RUNS = 3000;
     private static final int CALLS = 512;
+    /** The calls of one round of a run are not more: 1 + 26 tokens + 4 + 12 times 4 questions + 1. */
+    private static final int ROUND = 80;
     private static long seed = 20261115L;
     private static int wrong = 0;
     private static final int[] answers = new int[5];
@@ -323,7 +325,7 @@ public final class ModelTest {
         stored = places;
         int place = -1;
         int calls = 0;
-        while (calls < CALLS - 150 && wrong == 0) {
+        while (calls <= CALLS - ROUND && wrong == 0) {
             String name = "run " + run + ", call " + calls + ", ";
             due(name + "wipe", desk.wipe(), tokens.size());
             tokens.clear();
@@ -357,8 +359,7 @@ public final class ModelTest {
                 calls++;
             }
             for (int i = 0; i < 12; i++) {
-                ask(desk, places, name);
-                calls++;
+                calls += ask(desk, places, name);
             }
             due(name + "place", desk.place(), place);
             calls++;
@@ -478,8 +479,8 @@ public final class ModelTest {
         return at >= 0 && at <= 6 ? places[at] : null;
     }
 
-    /** One question in the midst of others, so that an answer that was kept from another one would show. */
-    private static void ask(RationalDesk desk, Ratio[] places, String name) {
+    /** Questions in the midst of others, so that an answer kept from another one would show; tells their number. */
+    private static int ask(RationalDesk desk, Ratio[] places, String name) {
         int at = edge(0, 6);
         int part = random(10) == 0 ? edge(0, 1) : random(2);
         int k = edge(0, 8);
@@ -503,10 +504,12 @@ public final class ModelTest {
             due(name + "factorDegree" + arguments, desk.factorDegree(at, part, i), f == null ? -1 : f.length - 1);
             due(name + "factor" + arguments, desk.factor(at, part, i, k), f == null || k > 8 ? 0 : at(f, k));
             due(name + "power" + arguments, desk.power(at, part, i), f == null ? 0 : multiplicity(a, f));
+            return 4;
         } else {
             int want = r == null || k > 8 ? 0 : at(divide(r.p, r.q)[0], k);
             due(name + "fraction" + arguments, desk.fraction(at, -1, edge(0, 8), k), want);
         }
+        return 1;
     }
 
     private static int multiplicity(int[] a, int[] f) {

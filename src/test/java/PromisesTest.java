@@ -2,12 +2,7 @@
  * Each promise by hand: ordinary inputs, the edges that the document names, wrong inputs.
  * No object is used for more than the 512 calls that the document speaks of.
  */
-public final class PromisesTest {
-    private static final int LOW = Integer.MIN_VALUE, HIGH = Integer.MAX_VALUE;
-    private static int wrong = 0;
-    private static int checks = 0;
-    private static String about = "";
-
+public final class PromisesTest extends Checks {
     public static void main(String[] args) {
         promise1NewObject();
         promise2Token();
@@ -27,111 +22,8 @@ public final class PromisesTest {
         promise12To14EachFactor();
         promise15Fraction();
         promise16RefusedChangesNothing();
-        System.out.println(checks + " checks, " + wrong + " wrong");
-        if (wrong != 0) {
-            System.exit(1);
-        }
+        end();
     }
-
-    // ---- helpers ----
-
-    private static void due(String what, long got, long want) {
-        checks++;
-        if (got != want) {
-            wrong++;
-            System.out.println(about + ": " + what + " answered " + got + ", due is " + want);
-        }
-    }
-
-    private static void due(String what, boolean got, boolean want) {
-        due(what, got ? 1 : 0, want ? 1 : 0);
-    }
-
-    /** Digits are NUMs, a..f the variables 0..5, ^ is followed by a digit or by - and a digit. */
-    private static void type(RationalDesk desk, String formula) {
-        desk.wipe();
-        for (int i = 0; i < formula.length(); i++) {
-            char c = formula.charAt(i);
-            if (c == ' ') {
-                continue;
-            }
-            boolean taken;
-            if (c >= '0' && c <= '9') {
-                taken = desk.token(0, c - '0');
-            } else if (c >= 'a' && c <= 'f') {
-                taken = desk.token(2, c - 'a');
-            } else if (c == '^') {
-                boolean minus = formula.charAt(i + 1) == '-';
-                i += minus ? 2 : 1;
-                int exponent = formula.charAt(i) - '0';
-                taken = desk.token(9, minus ? -exponent : exponent);
-            } else {
-                taken = desk.token(" x ()+-*/ '@".indexOf(c), 77);
-            }
-            due("token " + i + " of " + formula, taken, true);
-        }
-    }
-
-    private static int evaluate(RationalDesk desk, String formula) {
-        type(desk, formula);
-        return desk.evaluate();
-    }
-
-    private static RationalDesk with(String formula) {
-        RationalDesk desk = new RationalDesk();
-        due("evaluate " + formula, evaluate(desk, formula), RationalDesk.OK);
-        return desk;
-    }
-
-    private static void fault(RationalDesk desk, String formula, int code, int place) {
-        due("evaluate " + formula, evaluate(desk, formula), code);
-        due("place of " + formula, desk.place(), place);
-        due("no result of " + formula, desk.degree(6, 0), -2);
-    }
-
-    private static void fault(String formula, int code, int place) {
-        fault(new RationalDesk(), formula, code, place);
-    }
-
-    /** p and q as their numbers from the highest power down, 0 as "0". */
-    private static void result(RationalDesk desk, int at, String p, String q) {
-        part(desk, at, 0, p);
-        part(desk, at, 1, q);
-    }
-
-    private static void part(RationalDesk desk, int at, int part, String numbers) {
-        int degree = numbers.equals("0") ? -1 : numbers.length() - 1;
-        due("degree(" + at + ", " + part + ")", desk.degree(at, part), degree);
-        for (int k = 0; k <= 8; k++) {
-            int want = k < numbers.length() ? numbers.charAt(numbers.length() - 1 - k) - '0' : 0;
-            due("number(" + at + ", " + part + ", " + k + ")", desk.number(at, part, k), want);
-        }
-    }
-
-    private static void gives(String formula, String p, String q) {
-        about = formula;
-        RationalDesk desk = with(formula);
-        due("place", desk.place(), -1);
-        result(desk, 6, p, q);
-    }
-
-    private static void oneFactor(RationalDesk desk, int at, int part, int i, String numbers, int power) {
-        due("factorDegree " + i, desk.factorDegree(at, part, i), numbers.length() - 1);
-        due("power " + i, desk.power(at, part, i), power);
-        for (int k = 0; k <= 8; k++) {
-            int want = k < numbers.length() ? numbers.charAt(numbers.length() - 1 - k) - '0' : 0;
-            due("factor " + i + " at " + k, desk.factor(at, part, i, k), want);
-        }
-    }
-
-    private static void fractionIs(RationalDesk desk, int i, int j, String numbers) {
-        for (int k = -1; k <= 9; k++) {
-            int want = k >= 0 && k < numbers.length() ? numbers.charAt(numbers.length() - 1 - k) - '0' : 0;
-            due("fraction " + i + ", " + j + " at " + k, desk.fraction(6, i, j, k), want);
-        }
-    }
-
-    // ---- the promises ----
 
     private static void promise1NewObject() {
         about = "promise 1";
@@ -206,6 +98,7 @@ public final class PromisesTest {
     }
 
     private static void promise4Values() {
+        about = "promise 4, values";
         gives("7", "2", "1");
         gives("0", "0", "1");
         gives("x", "10", "1");
@@ -359,6 +252,7 @@ public final class PromisesTest {
     }
 
     private static void promise4Sizes() {
+        about = "promise 4, sizes";
         gives("x^8", "100000000", "1");
         gives("x^-8", "1", "100000000");
         gives("x^8/(x+1)^8", "100000000", "133101331");
@@ -373,7 +267,6 @@ public final class PromisesTest {
         gives("x^-7'", "3", "100000000");
         gives("(1/x^5)'", "0", "1");
         gives("(1/(x^4+2))'", "1000", "100040004");
-        about = "promise 4, sizes";
         fault("x^8*x", RationalDesk.TOO_LARGE, 2);
         fault("x^8+1/x", RationalDesk.TOO_LARGE, 2);
         fault("1/x^8/x", RationalDesk.TOO_LARGE, 4);
@@ -604,17 +497,6 @@ public final class PromisesTest {
         desk = with("0");
         noFactors(desk, 6, 0, 0);
         noFactors(desk, 6, 1, 0);
-    }
-
-    /** None with the number i or above, nor below 0. */
-    private static void noFactors(RationalDesk desk, int at, int part, int i) {
-        int[] outside = {i, i + 1, 8, 9, HIGH, -1, LOW};
-        for (int n : outside) {
-            due("factorDegree " + n, desk.factorDegree(at, part, n), -1);
-            due("power " + n, desk.power(at, part, n), 0);
-            due("factor " + n, desk.factor(at, part, n, 0), 0);
-            due("factor " + n, desk.factor(at, part, n, 1), 0);
-        }
     }
 
     private static void promise15Fraction() {
