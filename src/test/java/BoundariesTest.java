@@ -68,6 +68,7 @@ public final class BoundariesTest extends Checks {
         factorsByRisingDegree();
         factorsOfTheSameDegree();
         fractionsHaveLowerDegreesThanTheirFactors();
+        fractionsOfFactorsOfEachDegree();
         placesAre0To6();
     }
 
@@ -90,6 +91,7 @@ public final class BoundariesTest extends Checks {
 
     private static void promises6To10() {
         storeFrom0To5();
+        storeAndClearLeaveTheOthers();
         storeWithoutResult();
         clearFrom0To5();
         clearOfNothing();
@@ -289,6 +291,9 @@ public final class BoundariesTest extends Checks {
         gives("x^2@(x+1)@(x+1)", "144", "1");
         gives("x^2@x^3'", "100000", "1");
         gives("x@2@3", "2", "1");
+        gives("(x+1)@x^2", "121", "1");
+        gives("(x+1)@(x)^2", "121", "1");
+        gives("x^2@(x+1)'", "22", "1");
         gives("((x))", "10", "1");
         fault("x x", SYNTAX, 1);
         fault("x 1", SYNTAX, 1);
@@ -761,6 +766,31 @@ public final class BoundariesTest extends Checks {
         fractionIs(desk, 0, 1, "0");
     }
 
+    private static void fractionsOfFactorsOfEachDegree() {
+        about = "p / q with q's factors f0, f1, .. and their powers e0, e1, .. is w + the sum of all c / fi^j";
+        RationalDesk desk = with("x/(x^2+2)/(x+1)");
+        fractionIs(desk, 0, 1, "3");
+        fractionIs(desk, 1, 1, "24");
+        desk = with("x^8/(x^2+2)^2/(x^2+x+1)^2");
+        fractionIs(desk, -1, 0, "1");
+        fractionIs(desk, 0, 1, "21");
+        fractionIs(desk, 0, 2, "31");
+        fractionIs(desk, 1, 1, "12");
+        fractionIs(desk, 1, 2, "30");
+        desk = with("x/(x^3+x+1)/(x^3+x^2+1)");
+        fractionIs(desk, 0, 1, "331");
+        fractionIs(desk, 1, 1, "244");
+        desk = with("1/(x^4+2)/(x^4+x+4)");
+        fractionIs(desk, 0, 1, "3421");
+        fractionIs(desk, 1, 1, "2131");
+        desk = with("x/(x^5-x+1)/(x^3+x+1)");
+        fractionIs(desk, 0, 1, "231");
+        fractionIs(desk, 1, 1, "32104");
+        desk = with("1/(x^7+x+1)/x");
+        fractionIs(desk, 0, 1, "1");
+        fractionIs(desk, 1, 1, "4000004");
+    }
+
     private static void placesAre0To6() {
         about = "PLACES: 0..5 the variables, 6 the RESULT";
         RationalDesk desk = new RationalDesk();
@@ -1089,6 +1119,30 @@ public final class BoundariesTest extends Checks {
         due("0 is stored as well", desk.store(0), true);
         result(desk, 0, "0", "1");
         due("the RESULT stays", desk.degree(6, 0), -1);
+    }
+
+    private static void storeAndClearLeaveTheOthers() {
+        about = "Variable n gets the RESULT; Nothing is stored in variable n any more";
+        for (int n = 0; n <= 5; n++) {
+            RationalDesk desk = new RationalDesk();
+            for (int other = 5; other >= 0; other--) {
+                evaluate(desk, other + "/(x^2+" + other + ")+1");
+                due("store " + other, desk.store(other), true);
+            }
+            due("evaluate", evaluate(desk, "(x^8+3)/(x^8+2)"), OK);
+            due("store " + n, desk.store(n), true);
+            result(desk, n, "100000003", "100000002");
+            due("clear " + n, desk.clear(n), true);
+            for (int other = 0; other <= 5; other++) {
+                // 1 + c / (x^2 + c) is (x^2 + 2c) / (x^2 + c).
+                String p = other % 5 == 0 ? "1" : "10" + 2 * other % 5;
+                String q = other % 5 == 0 ? "1" : "10" + other;
+                if (other != n) {
+                    result(desk, other, p, q);
+                }
+            }
+            result(desk, 6, "100000003", "100000002");
+        }
     }
 
     private static void storeWithoutResult() {
